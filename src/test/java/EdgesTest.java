@@ -260,14 +260,19 @@ public final class EdgesTest {
 
     private static void numbersAre0To11() {
         sentence("An ENTRY of a list has a number 0 .. 11");
+        BestPairs x = new BestPairs();
+        for (int i = 0; i < 12; i++) {
+            due("enter into list 0", x.enter(0, 0, 100 + i), i);
+            due("enter into list 1", x.enter(1, 0, 200 + i), i);
+        }
+        for (int i = 0; i < 12; i++) {
+            due("score(0, " + i + ")", x.score(0, i), 100 + i);
+            due("score(1, " + i + ")", x.score(1, i), 200 + i);
+        }
         for (int list = 0; list < 2; list++) {
-            BestPairs x = new BestPairs();
-            for (int i = 0; i < 12; i++) {
-                due("enter into list " + list, x.enter(list, 0, 100 + i), i);
-            }
-            for (int i = 0; i < 12; i++) {
-                due("score(" + list + ", " + i + ")", x.score(list, i), 100 + i);
-            }
+            due("enter of a thirteenth", x.enter(list, 0, 300), FULL);
+            due("entries without number 12", x.entries(list), 4095);
+            due("score(" + list + ", 12)", x.score(list, 12), NONE);
         }
     }
 
@@ -367,6 +372,8 @@ public final class EdgesTest {
 
     private static void cursorStandsBeforeTheFirstPairAtFirst() {
         sentence("A CURSOR stands before the first pair of the ranking at first");
+        due("passed() of a new object", new BestPairs().passed(), 0);
+        due("lastValue() of a new object", new BestPairs().lastValue(), NONE);
         BestPairs x = onePair(0, 1, 2);
         due("passed()", x.passed(), 0);
         due("next()", x.next(), 0);
@@ -731,16 +738,16 @@ public final class EdgesTest {
     private static void weighTakesTheLeastAndTheGreatest() {
         sentence("Sets the weight of a list and answers true");
         for (int list = 0; list < 2; list++) {
-            BestPairs x = onePair(0, 10, 10);
+            BestPairs x = list == 0 ? onePair(0, 10, 1) : onePair(0, 1, 10);
             due("weigh(" + list + ", 0)", x.weigh(list, 0), true);
-            due("value", firstValue(x), 10);
+            due("value", firstValue(x), 1);
             due("weigh(" + list + ", 9)", x.weigh(list, 9), true);
-            due("value", firstValue(x), 100);
+            due("value", firstValue(x), 91);
             BestPairs y = new BestPairs();
             due("weigh(" + list + ", 9) before any entry", y.weigh(list, 9), true);
-            y.enter(0, 0, 10);
-            y.enter(1, 0, 10);
-            due("value", firstValue(y), 100);
+            y.enter(list, 0, 10);
+            y.enter(1 - list, 0, 1);
+            due("value", firstValue(y), 91);
         }
     }
 
